@@ -641,14 +641,14 @@ public final class LampSwitches {
         }
 
         /** How many rows of so many presses make a row of shades dark; it is as before then. */
-        int darkRows(int[] row, int presses) {
-            if (presses <= 0) {
+        int darkRows(int[] row, int length) {
+            if (length <= 0) {
                 return darkIn(row) == lamps ? 1 : 0;
             }
             int dark = 0;
             for (int s = 0; s < switches; s++) {
                 turnOn(row, s, 1);
-                dark += darkRows(row, presses - 1);
+                dark += darkRows(row, length - 1);
                 turnOn(row, s, -1);
             }
             return dark;
