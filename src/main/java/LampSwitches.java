@@ -287,9 +287,6 @@ public final class LampSwitches {
         if (!isIn(v, 0, MOST_SHADES - 1)) {
             return OUTSIDE;
         }
-        if (readings.many >= MOST_READINGS) {
-            return FULL;
-        }
         return readings.add(s, l, v);
     }
 
@@ -925,6 +922,7 @@ public final class LampSwitches {
         private final int[] lamp = new int[MOST_READINGS];
         private final int[] seen = new int[MOST_READINGS];
 
+        /** The number of the new reading; FULL: there is no place for it. */
         int add(int s, int l, int v) {
             if (many < 0 || many >= MOST_READINGS) {
                 return FULL;

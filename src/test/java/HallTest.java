@@ -79,6 +79,7 @@ final class HallTest {
         CHECK.due("code beyond a byte", x.hall(0, Check.INTS, 0, 6), -101);
         Check.write(x, 0, Check.INTS, 'l', '2', ';', 'p', '1', -1);
         CHECK.due("code -1", x.hall(0, Check.INTS, 0, 6), -105);
+        firstFault(x, "l22222" + ";p111111".repeat(5) + "0".repeat(14), 46);
         CHECK.due("hall as it was", x.ofLamp(1, 0), 3);
     }
 

@@ -57,12 +57,27 @@ final class OracleTest {
             }
         }
         text = codes.toString();
-        x = Check.withHall(text);
+        x = usedHall();
+        CHECK.due(text, Check.take(x, text), switches);
+    }
+
+    /** A hall of which nothing may be left when another text is taken. */
+    private static LampSwitches usedHall() {
+        LampSwitches used = Check.withHall("l55555;p111111;b211111;d311111;p411111;b111111");
+        for (int at = 0; at < 5; at++) {
+            used.press(at, 1 + at);
+            used.shade(at, 4);
+            used.reading(at, at, 4);
+        }
+        used.spare();
+        used.halls();
+        return used;
     }
 
     /** Other wires, turns and shades than told in the text. */
     private void change() {
         x.halls();
+        int presses = 0;
         for (int n = 0; n < 3; n++) {
             int s = chance.nextInt(kind.length);
             int l = chance.nextInt(shades.length);
@@ -80,8 +95,25 @@ final class OracleTest {
                 now = pressed(now, pressed);
             }
             CHECK.due(text + " press", x.press(pressed, often), dark(now));
+            presses += often;
         }
+        CHECK.due(text + " presses", x.many(3), presses);
         CHECK.dueShades(text, x, now);
+        for (int l = 0; l < shades.length; l++) {
+            int set = 0;
+            for (int s = 0; s < kind.length; s++) {
+                set |= wired[s][l] ? 1 << s : 0;
+            }
+            CHECK.due(text + " switches to " + l, x.ofLamp(l, 2), set);
+        }
+        compareDay();
+    }
+
+    /** A day of no act: how all is now. */
+    private void compareDay() {
+        x.sheet(1, Check.BYTES, 0);
+        CHECK.due(text + " dark", x.day(1, Check.BYTES, 0, 0, 0), dark(now));
+        CHECK.due(text + " shades", x.day(1, Check.BYTES, 0, 0, 2), Arrays.stream(now).sum());
     }
 
     private int moves(int s) {

@@ -91,6 +91,8 @@ final class PressTest {
         CHECK.due("presses", x.many(3), 0);
         CHECK.due("presses of 0", x.ofSwitch(0, 4), 0);
         CHECK.due("twice alike", x.day(1, Check.INTS, 0, 3, 3), 6);
+        Check.write(x, 1, Check.INTS, 99, 0, 1, 9, 99);
+        CHECK.due("cells around it don't matter", x.day(1, Check.INTS, 1, 1, 3), 1);
     }
 
     private static void refusalsAndFaultsOfDay() {

@@ -156,5 +156,7 @@ final class ReachTest {
         x.turnings(0);
         x.shadings(0);
         CHECK.due("halls behind sets", x.halls(), 4);
+        Check.take(x, "l5;p11;p21");
+        CHECK.due("halls of another hall", x.halls(), 5);
     }
 }
