@@ -333,12 +333,26 @@ public final class LampSwitches {
             rows *= hall.switches;
         }
         System.arraycopy(hall.now, 0, tried, 0, MOST_LAMPS);
-        int dark = hall.darkRows(tried, n);
+        int dark = darkRows(hall, tried, n);
         int common = commonDivisor(rows, dark);
         if (common == 0) {
             return LOST;
         }
         return (which == 0 ? dark : rows) / common;
+    }
+
+    /** How many rows of so many presses make a row of shades dark; it is as before then. */
+    private static int darkRows(Hall hall, int[] row, int length) {
+        if (length <= 0 || length > MOST_ODDS) {
+            return hall.darkIn(row) == hall.lamps ? 1 : 0;
+        }
+        int dark = 0;
+        for (int s = 0; s < hall.switches; s++) {
+            hall.turnOn(row, s, 1);
+            dark += darkRows(hall, row, length - 1);
+            hall.turnOn(row, s, -1);
+        }
+        return dark;
     }
 
     private static int commonDivisor(int a, int b) {
@@ -636,20 +650,6 @@ public final class LampSwitches {
             }
             return sum;
         }
-
-        /** How many rows of so many presses make a row of shades dark; it is as before then. */
-        int darkRows(int[] row, int length) {
-            if (length <= 0) {
-                return darkIn(row) == lamps ? 1 : 0;
-            }
-            int dark = 0;
-            for (int s = 0; s < switches; s++) {
-                turnOn(row, s, 1);
-                dark += darkRows(row, length - 1);
-                turnOn(row, s, -1);
-            }
-            return dark;
-        }
     }
 
     /** Reads the text of a hall. */
@@ -807,8 +807,9 @@ public final class LampSwitches {
         }
 
         int placeInRow(Hall hall, int[] gap, int k) {
+            spread(hall, hall.allSwitches());
             int here = numberOf(hall, gap);
-            int length = pressesFor(hall, gap);
+            int length = fewestTo(here);
             int s = NONE;
             for (int place = 0; place <= k; place++) {
                 if (place >= length) {
