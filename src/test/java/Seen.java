@@ -1,34 +1,53 @@
+import java.util.LinkedHashMap;
+import java.util.Map;
+
 /** All that can be seen of an object but fault(), which looking at sheets changes: alike for objects that are alike. */
 final class Seen {
-    private final StringBuilder told = new StringBuilder();
+    private final Map<String, Long> told = new LinkedHashMap<>();
 
+    /** All of it, as one text. */
     static String of(LampSwitches x) {
         Seen seen = new Seen();
-        seen.hall(x);
+        seen.state(x);
         seen.whatCanBeComeTo(x);
-        seen.whatTurned(x);
-        for (int k = 0; k < 4; k++) {
-            seen.sheet(x, k);
-        }
-        seen.add("trace", x.trace());
         return seen.told.toString();
     }
 
+    /** What calls change, by name: lamps, switches, readings by what follows from them, sheets, TRACE. */
+    static Map<String, Long> stateOf(LampSwitches x) {
+        Seen seen = new Seen();
+        seen.state(x);
+        return seen.told;
+    }
+
+    private void state(LampSwitches x) {
+        hall(x);
+        whatTurned(x);
+        for (int k = 0; k < 4; k++) {
+            sheet(x, k);
+        }
+        add("trace", x.trace());
+    }
+
     private void add(String name, long number) {
-        told.append(name).append(' ').append(number).append(' ');
+        if (told.put(name, number) != null) {
+            throw new IllegalStateException("told twice: " + name);
+        }
     }
 
     private void hall(LampSwitches x) {
+        String[] counts = {"lamps", "switches", "dark", "pressed", "readings"};
         for (int what = 0; what <= 4; what++) {
-            add("many", x.many(what));
+            add(counts[what], x.many(what));
         }
         for (int l = 0; l < x.many(0); l++) {
-            add("lamp", x.ofLamp(l, 0));
-            add("of", x.ofLamp(l, 1));
+            add("shades " + l, x.ofLamp(l, 0));
+            add("shade " + l, x.ofLamp(l, 1));
         }
+        String[] parts = {"kind", "turn", "moves", "wires", "pressed"};
         for (int s = 0; s < x.many(1); s++) {
             for (int what = 0; what <= 4; what++) {
-                add("switch", x.ofSwitch(s, what));
+                add(parts[what] + " " + s, x.ofSwitch(s, what));
             }
         }
     }
@@ -39,30 +58,37 @@ final class Seen {
         add("spare", x.spare());
         add("odds", x.odds(2, 0));
         for (int l = 0; l < x.many(0); l++) {
-            add("alone", x.alone(l));
+            add("alone " + l, x.alone(l));
         }
     }
 
     private void whatTurned(LampSwitches x) {
         for (int s = 0; s < x.many(1); s++) {
-            add("turnings", x.turnings(s));
-            add("kinds", x.kinds(s));
+            add("turnings " + s, x.turnings(s));
+            add("kinds " + s, x.kinds(s));
         }
         for (int l = 0; l < x.many(0); l++) {
-            add("shadings", x.shadings(l));
+            add("shadings " + l, x.shadings(l));
         }
     }
 
+    /** The lane of a sheet that has something (-1: it has nothing), and its cells. */
     private void sheet(LampSwitches x, int k) {
-        for (int lane = 0; lane <= 2; lane++) {
-            long cell = x.cell(k, 0, lane);
-            int fault = x.fault();
-            add("sheet", fault);
-            for (int i = 0; fault == 0 && i < 61; i++) {
-                add("", cell);
-                cell = x.cell(k, i + 1, lane);
-                fault = x.fault();
+        int lane = -1;
+        for (int tried = 0; tried <= 2; tried++) {
+            x.cell(k, 0, tried);
+            // Of its own lane it comes to no fault, or, if it has no cells, to INDEX.
+            if (x.fault() == 0 || x.fault() == 3) {
+                lane = tried;
             }
+        }
+        add("lane " + k, lane);
+        for (int i = 0; lane >= 0 && i < 61; i++) {
+            long cell = x.cell(k, i, lane);
+            if (x.fault() != 0) {
+                return;
+            }
+            add("cell " + k + " " + i, cell);
         }
     }
 }
