@@ -35,7 +35,7 @@ final class EdgePartsTest {
     }
 
     private static void tellByEachBody() {
-        CHECK.says("PLAIN (1): TURN. BROAD (2): what PLAIN's gives, and 100. "
+        CHECK.says("as they begin: PLAIN (1): TURN. BROAD (2): what PLAIN's gives, and 100. "
             + "DOUBLE (3): what BROAD's gives, and what PLAIN's gives (BROAD's left out).");
         for (int turn = 1; turn <= 4; turn++) {
             LampSwitches x = Check.withHall("l5;p" + turn + "1");

@@ -4,6 +4,7 @@ final class EdgeTermsTest {
 
     public static void main(String[] args) {
         constants();
+        refusalsByNumber();
         faultsByNumber();
         setsAsBits();
         eachLampThatItIsWiredTo();
@@ -23,6 +24,26 @@ final class EdgeTermsTest {
         CHECK.due("NONE of a lamp that can't be turned alone", Check.withHall("l2;p10").alone(0), -9);
         CHECK.says("LOST = Long.MIN_VALUE;");
         CHECK.due("LOST", LampSwitches.LOST, Long.MIN_VALUE);
+    }
+
+    private static void refusalsByNumber() {
+        CHECK.says("UNKNOWN (there is no such LAMP, SWITCH, SHEET, place of a row), OUTSIDE (another number is not as "
+            + "told), STATE (as told), FULL");
+        LampSwitches none = new LampSwitches();
+        LampSwitches x = Check.withHall("l23;p111");
+        CHECK.due("no such lamp", x.ofLamp(2, 0), -1);
+        CHECK.due("no such switch", x.ofSwitch(1, 0), -1);
+        CHECK.due("no such sheet", x.lose(4), -1);
+        CHECK.due("no such sheet of a call that names faults", x.put(4, 0, 0), -1);
+        CHECK.due("another number", x.many(5), -2);
+        CHECK.due("another number of a lamp", x.shade(1, 3), -2);
+        CHECK.due("there is no hall", none.halls(), -3);
+        CHECK.due("there is no hall, of a call that names faults", none.fewest(0, 0, 0, 0), -3);
+        for (int number = 0; number < 8; number++) {
+            x.reading(0, 0, 1);
+        }
+        CHECK.due("no more than 8 readings", x.reading(0, 0, 1), -4);
+        CHECK.due("fault() of refusals", x.fault() + none.fault(), 0);
     }
 
     private static void faultsByNumber() {
